@@ -125,8 +125,12 @@ public final class HourTest {
         x.hours(2);
         Due.is("on: 1 more each", x.told(0, 3), 2);
         Due.is("off: 2 less, 0 at least", x.told(1, 3), 0);
+        x.set(1, 3, 30);
+        x.hours(3);
+        Due.is("off: 2 less each", x.told(1, 3), 24);
+        x.set(0, 3, 2);
         Due.is("999 at most", x.told(2, 3), 999);
-        Due.is("slept", x.night(1), 2);
+        Due.is("slept", x.night(1), 5);
         Due.text(x, "tire t * e - 3");
         x.hours(1);
         Due.is("by text: 2 * 5 - 3 more", x.told(0, 3), 9);
@@ -147,6 +151,11 @@ public final class HourTest {
         x.lays(1, 2, 1);
         x.lays(2, 2, 1);
         Due.is("the least fears", x.night(3), 1);
+        x.lays(2, 2, 0);
+        Due.is("as it is now", x.night(3), 2);
+        x.lays(2, 1, 1);
+        Due.is("as the light is now", x.night(3), 1);
+        x.lays(2, 1, 0);
         Due.text(x, "fear 50 - t");
         Due.is("the least fears by text", x.night(3), 0);
     }
@@ -203,6 +212,17 @@ public final class HourTest {
         Due.is("more than now", x.loss(), 1);
         WolfFires y = Due.ring(0);
         Due.is("no foals", y.loss(), Due.NONE);
+        // As long as there is wood, light 99 and a dog's 9 are enough for one wolf of any hunger.
+        y = Due.ring(9);
+        Due.text(y, "light 99 * (w > 0)");
+        y.lays(0, 1, 1);
+        y.plain(1, 1);
+        y.watcher(2, 0, 9);
+        y.set(0, 4, 1);
+        y.plain(0, 300);
+        Due.is("in the last hour", y.loss(), 300);
+        y.plain(0, 301);
+        Due.is("not by then", y.loss(), Due.NONE);
         int[] guards = {99, 98};
         for (int hunger : guards) {
             WolfFires z = Due.ring(9);
@@ -310,6 +330,15 @@ public final class HourTest {
         Due.is("not on still", y.count(2), 0);
         y.set(2, 4, 1);
         Due.is("all others are not on", y.watch(1, 0), 1);
+        y = Due.ring(30);
+        y.plain(1, 8);
+        y.plain(2, 0);
+        y.watcher(2, 0, 7);
+        y.watcher(2, 0, 2);
+        y.watcher(2, 0, 8);
+        y.set(0, 4, 1);
+        Due.is("the first is not on either", y.watch(1, 0), 2);
+        Due.is("lost then", y.watch(1, 1), 0);
         Due.is("watch(0, 0)", x.watch(0, 0), Due.BAD);
         Due.is("watch(61, 0)", x.watch(61, 0), Due.BAD);
         Due.is("watch(1, 2)", x.watch(1, 2), Due.BAD);
@@ -356,7 +385,7 @@ public final class HourTest {
         x.mark(0, 0, 9);
         x.mark(0, 1, Due.NONE);
         x.mark(0, 2, -3);
-        x.mark(0, 3, 40);
+        x.mark(0, 3, -40);
         x.lays(0, 1, 9);
         x.lays(1, 2, 50);
         // Guard 18, hunger 5: 14 wolves take one in the first hour, fewer do not.

@@ -7,6 +7,7 @@ public final class RowTest {
         checkNearTheEnd();
         images();
         imageLeavesOut();
+        newOnesBehindBack();
         imagesOfTexts();
         count();
         Due.ends("RowTest");
@@ -147,6 +148,32 @@ public final class RowTest {
         Due.is("slots stay", x.ask(1, 0), 4);
         Due.is("numbers wait", x.count(9), 1);
         Due.is("the tape stays", x.count(10), 12);
+    }
+
+    /** What comes behind back() is new, whatever stood in its place. */
+    private static void newOnesBehindBack() {
+        WolfFires x = Due.ring(5);
+        x.watcher(0, 0, 4);
+        x.set(0, 4, 1);
+        x.keep();
+        for (int again = 0; again < 2; again++) {
+            Due.is("wagon", x.wagon(50), 1);
+            Due.is("fire", x.at(1, 1), 0);
+            Due.is("tried", x.at(1, 2), 0);
+            x.lays(1, 1, 6);
+            x.lays(1, 2, 7);
+            Due.is("watcher", x.watcher(2, 1, 4), 1);
+            Due.is("tired", x.told(1, 3), 0);
+            Due.is("on", x.told(1, 4), 0);
+            x.set(1, 3, 8);
+            x.set(1, 4, 1);
+            Due.is("who are on", x.count(2), 2);
+            x.back();
+            Due.is("foals of all", x.count(7), 5);
+            Due.is("who are on", x.count(2), 1);
+            Due.is("light", x.at(0, 3), 0);
+            Due.is("dark", x.dark(1), 1);
+        }
     }
 
     private static void imagesOfTexts() {

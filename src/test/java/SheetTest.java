@@ -89,6 +89,8 @@ public final class SheetTest {
         x.sheet(1, 0, 24);
         Due.is("more places than wagons", x.pour(1), 4);
         Due.is("no foals", x.count(7), 0);
+        x.mark(1, 5, 7);
+        Due.is("a place that is no wagon", x.pour(1), 0);
     }
 
     private static void reads() {
@@ -126,6 +128,10 @@ public final class SheetTest {
         Due.is("place 1", at(x, 1, 1), 13);
         Due.is("place 2", at(x, 1, 2), 14);
         Due.is("none", x.copy(0, 5, 1, 3, 0), 0);
+        x.sheet(3, 0, 5);
+        Due.is("all", x.copy(0, 0, 3, 0, 5), 5);
+        Due.is("the last", at(x, 3, 4), 14);
+        x.sheet(3, -1, 0);
         int[][] index = {{0, 6, 1, 0, 0}, {0, 0, 1, 4, 0}, {0, -1, 1, 0, 1}, {0, 0, 1, -1, 1}, {0, 4, 1, 0, 2},
             {0, 0, 1, 2, 2}, {0, 0, 1, 0, -1}, {0, 0, 1, 0, 4}, {0, 1, 1, 0, Integer.MAX_VALUE},
             {0, Integer.MAX_VALUE, 1, 0, 1}, {0, 0, 1, Integer.MAX_VALUE, 1}, {0, Integer.MIN_VALUE, 1, 0, Integer.MIN_VALUE}};

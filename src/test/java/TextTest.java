@@ -5,6 +5,7 @@ public final class TextTest {
         goodTexts();
         faults();
         nesting();
+        behindAFault();
         worked();
         full();
         textTold();
@@ -60,6 +61,8 @@ public final class TextTest {
             {"light f\tn", 7}, {"light\tf", 5}, {"light F", 6}, {"light f<=n", 8}, {"light f&&n", 8}, {"light light", 6},
             {"light f\u0000", 7}, {"light \u00e9", 6}, {"light -1", 6}, {"light f%n", 7}, {"light a", 6}, {"light 1 2", 8},
             {"fear! 5 5", 8}, {"tire 1 & | 2", 9},
+            {"night f", 0}, {"bear g", 0}, {"wire t", 0}, {"lighz f", 0}, {"light fz", 6}, {"light za", 6}, {"light fa", 6},
+            {"light 9a", 7}, {"light 0:", 7}, {"light f/n/", 10}, {"light `", 6}, {"light {", 6},
         };
         for (Object[] b : bad) {
             Due.is((String) b[0], Due.text(new WolfFires(), (String) b[0]), -100 - (Integer) b[1]);
@@ -83,6 +86,23 @@ public final class TextTest {
         }
         Due.is("a long text", Due.text(new WolfFires(), long96.toString()), 0);
         Due.is("96 bytes, end too soon", Due.text(new WolfFires(), long96 + "+"), -196);
+    }
+
+    /** What a faulty text left open is nothing to the next one. */
+    private static void behindAFault() {
+        WolfFires x = Due.ring(0, 0);
+        x.lays(1, 1, 4);
+        Due.is("eight ( open", Due.text(x, "light (((((((("), -114);
+        Due.is("eight ! open", Due.text(x, "light !!!!!!!!"), -114);
+        Due.is("a sum open", Due.text(x, "light 7+5*(n-"), -113);
+        Due.is("a text", Due.text(x, "light !(((((((n)))))))*5+9"), 0);
+        Due.is("light", x.at(0, 3), 9);
+        Due.is("its numbers and names", x.textTold(0, 1), 3);
+        Due.is("one ) too many", Due.text(x, "light f)"), -107);
+        Due.is("a text", Due.text(x, "light !!!!!!!!n"), 1);
+        Due.is("light", x.at(0, 3), 1);
+        Due.is("0 is a number", Due.text(x, "light 0"), 2);
+        Due.is("light", x.at(0, 3), 0);
     }
 
     /** Light of one wagon with fire 3 and wood 7, by a text. */
@@ -109,6 +129,9 @@ public final class TextTest {
         Due.is("or", light("light (0|0)+(0|5)*2+(5|0)*4+(5|6)*8"), 14);
         Due.is("not", light("light !0+!5*2+!!5*4"), 5);
         Due.is("! ahead of a sum", light("light !0+5"), 6);
+        Due.is("! ahead of (", light("light !(1-1)+5"), 6);
+        Due.is("! ahead of ( on the right", light("light 20-!(f-3)*7"), 13);
+        Due.is("( behind a sign", light("light 20-(9-(4-1))"), 14);
         Due.is("| is loosest", light("light 1|0&0"), 1);
         Due.is("& is tighter", light("light 0&0|1"), 1);
         Due.is("tests are tighter than &", light("light 5&0=0"), 1);

@@ -159,6 +159,9 @@ public final class WatcherTest {
             Due.is("tired and on", x.told(k, 3) + x.told(k, 4), 0);
         }
         Due.is("no draws for others", x.count(11), z);
+        WolfFires y = new WolfFires();
+        Due.is("deal(1)", y.deal(1), 1);
+        Due.is("deal(8)", y.deal(8), 7);
         Due.is("no room", x.deal(2), 0);
         Due.is("no draws", x.count(11), z);
         Due.is("the first one stays", x.told(0, 2), 1);
