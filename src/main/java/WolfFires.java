@@ -22,7 +22,7 @@ public final class WolfFires {
     private static final int HOLDS_NOTHING = 0, HOLDS_WATCHER = 1, HOLDS_SHEET = 2, HOLDS_NUMBER = 3;
 
     // One law more than there can be texts: the last is only read into, so that a fault is found when all are told.
-    private final Law[] laws = new Law[MOST_TEXTS + 1];
+    private final Law[] laws;
     private final Camp now;
     private final Camp image;
     // What is only thought happens in here, so that no call makes a camp of its own.
@@ -36,19 +36,26 @@ public final class WolfFires {
     private boolean kept = false;
 
     public WolfFires() {
-        int[] stack = new int[MOST_BYTES];
-        for (int k = 0; k < laws.length; k++) {
-            laws[k] = new Law(stack);
-        }
+        Law[] all = emptyLaws();
+        laws = all;
+        now = new Camp(all);
+        image = new Camp(all);
+        thought = new Camp(all);
         for (int k = 0; k < sheets.length; k++) {
             sheets[k] = new Sheet();
         }
         for (int k = 0; k < slots.length; k++) {
             slots[k] = new Slot();
         }
-        now = new Camp(laws);
-        image = new Camp(laws);
-        thought = new Camp(laws);
+    }
+
+    private static Law[] emptyLaws() {
+        int[] stack = new int[MOST_BYTES];
+        Law[] all = new Law[MOST_TEXTS + 1];
+        for (int k = 0; k < all.length; k++) {
+            all[k] = new Law(stack);
+        }
+        return all;
     }
 
     // ---- the ring
@@ -392,7 +399,7 @@ public final class WolfFires {
 
     public int text() {
         // The image has never more texts than there are now, so the next law is in no image.
-        Law law = laws[now.texts];
+        Law law = laws[Math.min(now.texts, MOST_TEXTS)];
         int fault = tape.readInto(law);
         tape.many = 0;
         if (fault >= 0) {

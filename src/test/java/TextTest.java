@@ -94,6 +94,9 @@ public final class TextTest {
         x.lays(1, 1, 4);
         Due.is("eight ( open", Due.text(x, "light (((((((("), -114);
         Due.is("eight ! open", Due.text(x, "light !!!!!!!!"), -114);
+        Due.is("a test open", Due.text(x, "light f<"), -108);
+        Due.is("a test", Due.text(x, "light f<n+"), -110);
+        Due.is("a test", Due.text(x, "fear t=n"), -107);
         Due.is("a sum open", Due.text(x, "light 7+5*(n-"), -113);
         Due.is("a text", Due.text(x, "light !(((((((n)))))))*5+9"), 0);
         Due.is("light", x.at(0, 3), 9);
@@ -103,6 +106,9 @@ public final class TextTest {
         Due.is("light", x.at(0, 3), 1);
         Due.is("0 is a number", Due.text(x, "light 0"), 2);
         Due.is("light", x.at(0, 3), 0);
+        Due.is("a test open", Due.text(x, "light f<"), -108);
+        Due.is("a test", Due.text(x, "light f<n"), 3);
+        Due.is("light", x.at(0, 3), 1);
     }
 
     /** Light of one wagon with fire 3 and wood 7, by a text. */
