@@ -61,6 +61,14 @@ public final class EdgesOfSheetsTest {
             Edge.fresh("sheet(0, 0, 3) = 3; reads(0) = 0; sheet(0, -1, " + n + ") = 0; reads(0) = NOTHING; sheet(0, -1, " + n + ") = 0",
                 "sheet(4, -1, " + n + ") = BAD; sheet(-1, -1, " + n + ") = BAD");
         }
+        Edge.says("SIZE: a number of places is below 0");
+        Edge.fresh("sheet(0, 0, -1) = SIZE; sheet(3, 1, -1) = SIZE; sheet(3, 1, LEAST) = SIZE; sheet(0, 0, 0) = 0; sheet(3, 1, 0) = 0; sheet(0, 0, -1) = SIZE; reads(0) = NONE");
+        Edge.says("A place of floats may be NO NUMBER");
+        Edge.fresh("sheet(0, 1, 24) = 24; mark(0, 0, NONE) = 1; mark(0, 23, NONE) = 1; lay(0, 2, 0) = 0; item(0, 0) = KIND; item(0, 23) = KIND; item(0, 1) = 0; item(0, 22) = 0",
+            "copy(0, 23, 0, 1, 1) = 1; lay(1, 2, 0) = 0; item(1, 1) = KIND; sheet(1, 0, 24) = 24; mark(1, 0, NONE) = KIND; copy(0, 0, 1, 0, 1) = KIND; lay(1, 2, 1) = 2; item(1, 0) = 0");
+        Edge.says("KIND: it is none (of a KIND, a number, or another thing)");
+        Edge.fresh("watcher(0, 0, 1) = 0; as(0, 1) = KIND; lay(0, 1, 0) = 0; ask(0, 1) = KIND; item(0, 0) = KIND; rest(0, 1) = KIND; lay(0, 3, 5) = 1; ask(0, 0) = KIND; item(0, 0) = KIND",
+            "sheet(0, 1, 1) = 1; mark(0, 0, NONE) = 1; lay(0, 2, 0) = 3; ask(0, 0) = KIND; rest(0, 1) = KIND; item(0, 0) = KIND; sheet(1, 0, 1) = 1; mark(1, 0, NONE) = KIND; copy(0, 0, 1, 0, 1) = KIND");
         Edge.says("NOTHING: a SHEET is MISSING, a SLOT holds nothing");
         Edge.fresh("mark(0, 0, 0) = NOTHING; pour(0) = NOTHING; reads(0) = NOTHING; copy(0, 0, 0, 0, 0) = NOTHING; lay(0, 2, 0) = NOTHING; signs(0, 0, 0) = NOTHING",
             "ask(0, 0) = NOTHING; item(0, 0) = NOTHING; rest(0, 1) = NOTHING; sheet(0, 0, 0) = 0; copy(0, 0, 1, 0, 0) = NOTHING; copy(1, 0, 0, 0, 0) = NOTHING",
@@ -201,7 +209,7 @@ public final class EdgesOfSheetsTest {
             "sheet(1, 0, 3) = 3; mark(1, 2, 8); lay(0, 2, 1) = 2; item(0, 0) = 0; item(0, 1) = 0; item(0, 2) = 8; item(0, 3) = INDEX; copy(1, 2, 1, 0, 1) = 1; item(0, 0) = 0",
             "sheet(2, 0, 0) = 0; lay(0, 2, 2) = 2; item(0, 0) = INDEX; lay(0, 2, 1) = 2; item(0, 2) = 8; item(0, 0) = 8");
 
-        Edge.says("3 the number k: what it held (0 .. 3)");
+        Edge.says("A SLOT holds: thing 0 nothing, 1 WATCHER k, 2 SHEET k, 3 the number k: what it held (0 .. 3)");
         Edge.fresh("lay(0, 3, MOST) = 0; rest(0, 10) = 7; lay(0, 3, LEAST) = 3; rest(0, 10) = -8; lay(0, 3, NONE) = 3; rest(0, 10) = -5; lay(0, 3, 0) = 3; rest(0, 7) = 0; lay(0, 0, LEAST) = 3; lay(0, 0, MOST) = 0");
     }
 

@@ -17,6 +17,7 @@ public final class EdgesOfTextsTest {
         ninthNot();
         theEnd();
         firstFault();
+        behindAFault();
         wraps();
         byNought();
         truth();
@@ -197,6 +198,18 @@ public final class EdgesOfTextsTest {
         fault("light f1", 7);
         fault("light 1f", 7);
         fault("light az", 6);
+        fault("lighta f", 0);
+        fault("lightz f", 0);
+        fault("light fa", 6);
+        fault("light fz", 6);
+        fault("light f a", 8);
+        fault("light f`", 7);
+        fault("light f{", 7);
+        fault("light`f", 5);
+        fault("light{f", 5);
+        fault("light 0a", 7);
+        fault("light 9z", 7);
+        gives("1909/50", 38);
         fault("light f+zz", 8);
         fault("light 09:", 8);
         fault("light 09/", 9);
@@ -338,6 +351,22 @@ public final class EdgesOfTextsTest {
         fault("light -1", 6);
         fault("light --1", 6);
         fault("light f#", 7);
+    }
+
+    private static void behindAFault() {
+        Edge.says("-100 less the place of its FAULT");
+        // What a faulty text left open, or had read already, is nothing to the next one.
+        String[][] faults = {{"light ((((((((", "14"}, {"light !!!!!!!!", "14"}, {"light f<", "8"}, {"light f<n<", "9"}, {"light 7+5*(w-", "13"},
+            {"light 9 9", "8"}, {"light 1+2+3+4+5 6", "16"}, {"light (f))", "9"}, {"light !(!(!(f", "13"}, {"fear g+t-h n", "11"}, {"tire t*e*(", "10"}};
+        for (String[] one : faults) {
+            String bad = "'" + one[0] + "' = " + (-100 - Integer.parseInt(one[1]));
+            Edge.wagons(1).on("lays(0, 1, 3)", bad, "'light !((((((((f))))))))+8' = 0; at(0, 3) = 8; textTold(0, 0) = 0; textTold(0, 1) = 2; why(0) = 0; why(1) = NONE");
+            Edge.wagons(1).on("lays(0, 1, 3)", bad, "'light !!!!!!!!f*5+(f<4)' = 0; at(0, 3) = 6; textTold(0, 1) = 4");
+            Edge.wagons(1).on("lays(0, 1, 3)", bad, bad, "'light f' = 0; at(0, 3) = 3; textTold(0, 1) = 1; count(8) = 1", bad, "at(0, 3) = 3; count(8) = 1; 'light 7' = 1; at(0, 3) = 7");
+            Edge.wagons(1).on("lays(0, 1, 3)", bad, "'light f)' = -107; 'light f<3' = 0; at(0, 3) = 0");
+        }
+        // A text that back() took away is nothing to the one that takes its number.
+        Edge.wagons(1).on("keep(); 'light 1+2+3+4' = 0; at(0, 3) = 10; back() = 1; at(0, 3) = 0; 'light 5' = 0; at(0, 3) = 5; textTold(0, 1) = 1");
     }
 
     private static void wraps() {

@@ -195,7 +195,7 @@ public final class EdgesOfThePackTest {
         }
         Due.holds("the least and the most of each came", seen[0][0] && seen[0][5] && seen[1][0] && seen[1][11] && seen[2][1] && seen[2][9]);
 
-        Edge.says("as many as there is room for (no draws for others): how many came");
+        Edge.says("as many as there is room for (no draws for others): how many came. BAD.");
         Script s = Edge.fresh("deal(0) = BAD; deal(9) = BAD; deal(-1) = BAD; count(11) = 1; count(1) = 0; deal(1) = 1; deal(8) = 7; count(1) = 8");
         int z = 1;
         for (int k = 0; k < 24; k++) {

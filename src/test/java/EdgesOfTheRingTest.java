@@ -20,6 +20,7 @@ public final class EdgesOfTheRingTest {
         seesAsBoy();
         seesNothing();
         worth();
+        asTheOneAbove();
         guard();
         Edge.ends("EdgesOfTheRingTest");
     }
@@ -245,6 +246,14 @@ public final class EdgesOfTheRingTest {
             Edge.fresh("watcher(" + kind + ", 0, 1) = 0; told(0, 6) = " + due[kind][0], "lay(0, 1, 0); ask(0, 0) = " + due[kind][0],
                 "set(0, 2, 9); told(0, 6) = " + due[kind][1], "set(0, 3, 999); set(0, 4, 1); set(0, 1, 11); told(0, 6) = " + due[kind][1]);
         }
+    }
+
+    private static void asTheOneAbove() {
+        Edge.says("(A KIND that is not named does as the one above it.)");
+        Edge.says("A WATCHER as one of a KIND: EYES. BAD: watcher, kind; KIND: it is not of that KIND, nor of one under it.");
+        // All kinds are named for SEES and WORTH; EYES are every kind's own, whatever it is taken for.
+        Edge.fresh("as(0, 0) = BAD; as(0, 6) = BAD; watcher(3, 0, 1) = 0; as(0, 0) = 1; as(0, 1) = 1; as(0, 3) = 1; as(0, 2) = KIND; as(0, 4) = KIND; as(0, 5) = KIND; as(0, -1) = BAD; as(1, 0) = BAD; as(1, 6) = BAD; as(-1, 0) = BAD",
+            "set(0, 2, 9); as(0, 0) = 9; as(0, 3) = 9; turns(0, 4) = 3; as(0, 2) = 9; as(0, 4) = 9; as(0, 1) = KIND; as(0, 3) = KIND; turns(0, 0) = 4; as(0, 0) = 9; as(0, 4) = KIND; as(0, 1) = KIND");
     }
 
     private static void guard() {

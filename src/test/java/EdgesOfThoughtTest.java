@@ -47,6 +47,8 @@ public final class EdgesOfThoughtTest {
     }
 
     private static void woodLasts() {
+        Edge.says("WOOD LASTS. NONE: not by then.");
+        Edge.wagons(1).on("lays(0, 1, 1); plain(0, 299); lasts() = 300; plain(0, 300); lasts() = NONE");
         Edge.says("WOOD LASTS: behind how many HOURS (1 .. 300) a FIRE has gone out for want of WOOD first");
         Edge.fresh("lasts() = NONE; plain(0, 0); lasts() = NONE; wagon(0) = 0; lasts() = NONE");
         Edge.wagons(1).on("lays(0, 1, 1); plain(0, 0); lasts() = 1; plain(0, 1); lasts() = 2; plain(0, 298); lasts() = 299; plain(0, 299); lasts() = 300",
@@ -59,6 +61,9 @@ public final class EdgesOfThoughtTest {
     }
 
     private static void firstLoss() {
+        Edge.says("FIRST LOSS. NONE: not by then.");
+        // They come 99 hours to the wagon without foals, then to the other one, which was tried 98 times.
+        Edge.fresh("wagon(0) = 0; wagon(1) = 1; lays(1, 2, 98); loss() = 100; hours(99) = 0; loss() = 1; hours(1) = 1; loss() = NONE");
         Edge.says("FIRST LOSS: behind how many HOURS (1 .. 300) LOST is more than now first");
         Edge.fresh("loss() = NONE; wagon(0) = 0; loss() = NONE; wagon(1) = 1; loss() = 2; plain(1, 0); loss() = NONE");
         Edge.fresh("wagon(2) = 0; loss() = 1; hours(1) = 1; loss() = 1; hours(1) = 1; loss() = NONE");
@@ -139,6 +144,9 @@ public final class EdgesOfThoughtTest {
         // Two of 7 who are on now would be enough together, but one alone is not.
         dogs(7, 7, 8).on("set(0, 4, 1); set(1, 4, 1); behind(1, 0) = 0; watch(1, 0) = 2; watch(1, 1) = 0; told(0, 4) = 1; told(2, 4) = 0");
         dogs(7, 7, 5).on("set(0, 4, 1); set(1, 4, 1); watch(1, 0) = 0; watch(1, 1) = 1");
+        // Who watches tires, who sleeps does not: a boy is worth nothing behind six hours, whatever he was ahead of them.
+        Edge.fresh("wagon(30) = 0; plain(1, 1); plain(2, 0); watcher(5, 0, 9) = 0; watcher(2, 0, 8) = 1; 'fear 0'",
+            "watch(6, 0) = 0; watch(6, 1) = 0; watch(7, 0) = 1; watch(7, 1) = 0; watch(9, 0) = 1; watch(9, 1) = 1; set(0, 3, 6); watch(1, 0) = 1; set(0, 4, 1); watch(9, 0) = 1; told(0, 3) = 6");
         dogs(7).on("hours(3) = 3; watch(1, 1) = 4; watch(0, 0) = BAD; watch(61, 0) = BAD; watch(1, -1) = BAD; watch(1, 2) = BAD");
     }
 
@@ -152,6 +160,9 @@ public final class EdgesOfThoughtTest {
             }
             s.on("place(0, 1) = " + best, "place(0, 3) = " + best, "told(0, 1) = 0; told(0, 4) = 0; plain(1, 0); place(0, 1) = 0; place(0, 60) = 0");
         }
+        // They come to wagon 1 in the eighth hour: a boy has tired by then wherever he is, a dog has not.
+        Edge.fresh("wagon(1) = 0; wagon(30) = 1; lays(1, 2, 5); 'fear t'; plain(1, 1); plain(2, 0); watcher(5, 0, 9) = 0",
+            "place(0, 9) = 0; turns(0, 2); place(0, 9) = 1; turns(0, 5); set(0, 4, 1); place(0, 9) = 0; told(0, 3) = 0; told(0, 1) = 0");
         // A dog of 4 is not enough for 5 wolves: with another of 4 as it is, on, it is.
         Edge.fresh("wagon(0) = 0; wagon(9) = 1; lays(0, 2, 30); plain(1, 5); plain(2, 0); watcher(2, 0, 4) = 0; watcher(2, 1, 4) = 1",
             "place(0, 1) = 0; set(1, 4, 1); place(0, 1) = 1; set(1, 1, 0); place(0, 1) = 0; place(1, 1) = 0");

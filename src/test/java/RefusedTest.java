@@ -143,7 +143,7 @@ public final class RefusedTest {
         Edge.says("n (1 .. 300) HOURS (no more than up to 9999): how many FOALS were LOST in them. BAD.");
         taken("hours(1); hours(300)");
         refused(Camps.SOME, "hours(0) = BAD; hours(301) = BAD; hours(-1) = BAD; hours(MOST) = BAD; hours(LEAST) = BAD");
-        Edge.says("(of several the least; NONE: there are no WAGONS, or no WOLVES). BAD.");
+        Edge.says("What was 0 LOST, 1 SLEPT, 2 BURNT, and 3 the WAGON with the least FEARS, as it is (of several the least; NONE: there are no WAGONS, or no WOLVES). BAD.");
         taken("night(0); night(3)");
         refused(Camps.SOME, "night(-1) = BAD; night(4) = BAD; night(MOST) = BAD; night(LEAST) = BAD");
         Edge.says("BEHIND n (0 .. 300) HOURS: what 0 LOST, 1 WOOD, 2 HUNGER, 3 FOALS. BAD.");
@@ -225,7 +225,7 @@ public final class RefusedTest {
 
     /** All is full. */
     private static void full() {
-        Edge.says("of several the one that stands first with it");
+        Edge.says("A call that is refused answers one of BAD, NO, FULL, or a FINDING, of several the one that stands first with it");
         refused(Camps.FULL, "wagon(0) = FULL; wagon(99) = FULL; wagon(100) = BAD; wagon(-1) = BAD; at(12, 0) = BAD; at(11, 6) = BAD; lays(12, 0, 0) = BAD; far(0, 12) = BAD; far(12, 0) = BAD",
             "watcher(0, 0, 1) = FULL; watcher(5, 11, 9) = FULL; watcher(6, 0, 1) = BAD; watcher(0, 12, 1) = BAD; watcher(0, 0, 10) = BAD; told(8, 0) = BAD; set(8, 1, 0) = BAD; as(8, 0) = BAD; turns(8, 0) = BAD; place(8, 1) = BAD",
             "deal(0) = BAD; deal(9) = BAD; deal(1) = 0; deal(8) = 0; hours(0) = BAD; hours(301) = BAD; hours(1) = 0; hours(300) = 0; fires(0, 0) = NONE; fires(18, 2) = NONE; fires(19, 0) = BAD; fires(0, 3) = BAD",
@@ -236,6 +236,8 @@ public final class RefusedTest {
 
     /** There is nothing at all. */
     private static void empty() {
+        Edge.says("NONE: there is none.");
+        refused(Camps.EMPTY, "night(3) = NONE; lasts() = NONE; loss() = NONE; fires(0, 0) = NONE; watch(1, 0) = NONE; why(0) = NONE");
         Edge.says("As told; no WAGONS, no WATCHERS.");
         refused(Camps.EMPTY, "at(0, 0) = BAD; at(0, 3) = BAD; lays(0, 0, 0) = BAD; lays(0, 1, 0) = BAD; far(0, 0) = BAD; told(0, 0) = BAD; told(0, 5) = BAD; as(0, 0) = BAD; turns(0, 0) = BAD; set(0, 1, 0) = BAD; set(0, 4, 0) = BAD",
             "night(0) = 0; night(1) = 0; night(2) = 0; night(3) = NONE; behind(0, 0) = 0; behind(300, 0) = 0; behind(300, 1) = 100; behind(300, 2) = 5; behind(300, 3) = 0; lasts() = NONE; loss() = NONE; dark(0) = 0; dark(100) = 0",
