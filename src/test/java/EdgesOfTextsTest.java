@@ -357,7 +357,7 @@ public final class EdgesOfTextsTest {
         Edge.says("-100 less the place of its FAULT");
         // What a faulty text left open, or had read already, is nothing to the next one.
         String[][] faults = {{"light ((((((((", "14"}, {"light !!!!!!!!", "14"}, {"light f<", "8"}, {"light f<n<", "9"}, {"light 7+5*(w-", "13"},
-            {"light 9 9", "8"}, {"light 1+2+3+4+5 6", "16"}, {"light (f))", "9"}, {"light !(!(!(f", "13"}, {"fear g+t-h n", "11"}, {"tire t*e*(", "10"}};
+            {"light 9 9", "8"}, {"light !f 9", "9"}, {"light !!f+!n 9", "13"}, {"light 1+2+3+4+5 6", "16"}, {"light (f))", "9"}, {"light !(!(!(f", "13"}, {"fear g+t-h n", "11"}, {"tire t*e*(", "10"}};
         for (String[] one : faults) {
             String bad = "'" + one[0] + "' = " + (-100 - Integer.parseInt(one[1]));
             Edge.wagons(1).on("lays(0, 1, 3)", bad, "'light !((((((((f))))))))+8' = 0; at(0, 3) = 8; textTold(0, 0) = 0; textTold(0, 1) = 2; why(0) = 0; why(1) = NONE");
